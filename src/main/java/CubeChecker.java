@@ -307,7 +307,9 @@ public final class CubeChecker {
 
     private MaySearch newestMay() {
         if (maySearch == null) {
-            maySearch = new MaySearch(program, meaning, lookedAt);
+            Leaps leaps = new Leaps(program, meaning);
+            Way way = new Way(program, meaning, leaps, lookedAt);
+            maySearch = new MaySearch(program, leaps, way, lookedAt);
             maySearch.takeProgram();
         }
         if (maySearchIsOld) {
@@ -917,9 +919,9 @@ public final class CubeChecker {
         private static final int STATES = PLACES_MOST * CUBES;
 
         private final Program program;
-        private final int[] lookedAt;
         private final Leaps leaps;
         private final Way way;
+        private final int[] lookedAt;
         /** PLACE * CUBES + CUBE, in the order in which they come. */
         private final int[] node = new int[STATES];
         /** The one that it came from, * 16 + the EDGE; -1 for those of first values. */
@@ -930,11 +932,11 @@ public final class CubeChecker {
         private int came;
         private int firstOfTrap;
 
-        MaySearch(Program program, Meaning meaning, int[] lookedAt) {
+        MaySearch(Program program, Leaps leaps, Way way, int[] lookedAt) {
             this.program = program;
+            this.leaps = leaps;
+            this.way = way;
             this.lookedAt = lookedAt;
-            leaps = new Leaps(program, meaning);
-            way = new Way(program, meaning, leaps, lookedAt);
         }
 
         void takeProgram() {

@@ -153,6 +153,14 @@ public final class PromiseTest {
         due("looked", x.count(5), 0);
         due("real as told", x.real(1, 1), 8);
         due("path as told", x.path(-2), 2);
+        tell(x, "p21;v00;c100;");
+        x.lay();
+        x.look(0, 0, 1);
+        dueRow("first values of one", new int[] {x.state(0, -1), x.state(0, 0)}, 1, 1);
+        tell(x, "p21;v11;c100;");
+        x.lay();
+        x.look(0, 0, 1);
+        dueRow("first values of the next", new int[] {x.state(0, -1), x.state(0, 0)}, 1, 0);
     }
 
     private static void edge() {
@@ -310,6 +318,10 @@ public final class PromiseTest {
         dueRow("asked", new int[] {x.may(1, 1, 1), x.may(1, 0, 0), x.may(1, 0, 1), x.may(1, 1, 0)}, 1, 0, 0, 0);
         dueRow("no such state", new int[] {x.may(0, 2, 0), x.may(0, 255, 0), x.may(0, 0, 255), x.may(0, 3, 3)}, 0, 0, 0, 0);
         due("of a place that no state comes to", x.may(2, 0, 0), 1);
+        CubeChecker zero = laid("p21;v00;v00;c100;c110;e0190000;");
+        for (int g = 0; g < 2; g++) zero.look(0, g, 1);
+        dueRow("all values count", new int[] {zero.may(0, 0, 0), zero.may(0, 1, 0), zero.may(0, 2, 0), zero.may(0, 3, 0)},
+            1, 1, 1, 1);
         dueRow("wrong", new int[] {x.may(3, 0, 0), x.may(-1, 0, 0), x.may(0, -1, 0), x.may(0, 256, 0), x.may(0, 0, -1),
             x.may(0, 0, 256)}, BAD, BAD, BAD, BAD, BAD, BAD);
     }
@@ -358,6 +370,8 @@ public final class PromiseTest {
         dueRow("real", new int[] {x.path(-1), x.path(-2), x.path(1)}, 3, 3, 1);
         CubeChecker here = laid("p20;v00;e0190000;");
         dueRow("trap is place 0", new int[] {here.path(-1), here.path(-2), here.path(0)}, 0, 0, NONE);
+        CubeChecker three = laid("p21;v33;c103;e0101000;");
+        dueRow("first values count", new int[] {three.path(-1), three.path(-2)}, 1, 1);
         CubeChecker lowest = laid("p32;v01;c101;e0101000;e0100000;e1290000;");
         lowest.look(0, 0, 1);
         dueRow("by the state that came first", new int[] {lowest.path(-1), lowest.path(0), lowest.path(1)}, 2, 1, 2);
@@ -383,6 +397,8 @@ public final class PromiseTest {
         dueRow("real", new int[] {x.mend(), x.count(7)}, NO, 0);
         x = laid("p43;v00;v00;c102;c112;e0190000;e0290000;e1301000;");
         due("mend()", x.mend(), 1);
+        CubeChecker past = laid("p32;v00;c100;e0200000;");
+        dueRow("past a place", new int[] {past.mend(), past.looked(0), past.looked(1), past.looked(2)}, 1, 1, 0, 1);
         dueRow("only on the path", new int[] {x.looked(0), x.looked(1), x.looked(2), x.looked(3)}, 1, 1, 0, 1);
     }
 
@@ -428,6 +444,9 @@ public final class PromiseTest {
         due("undo()", x.undo(), NO);
         x.look(3, 3, 1);
         dueRow("a change behind undo", new int[] {x.count(7), x.undo(), x.looked(3), x.looked(0)}, 1, 0, 0, 1);
+        CubeChecker first = laid(TWO_WAYS);
+        dueRow("edge 0 turned and undone", new int[] {first.turn(0), first.edge(0, 3), first.undo(), first.edge(0, 3),
+            first.edge(1, 3)}, 1, 1, 0, 0, 0);
         for (int i = 0; i < 8; i++) x.turn(1);
         x.undo();
         x.undo();
