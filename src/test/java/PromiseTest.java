@@ -119,6 +119,8 @@ public final class PromiseTest {
         dueFault(fourteen + "e0190000;", 130);
         dueFault(fourteen + "v00;" + "c000;".repeat(8) + "v00;v00;e0190000;", 182);
         dueFault("p20;v00;e0101000;c000;", 8);
+        dueFault("p20;v00;c000;x0;", 13);
+        dueFault("p20;v00;c000;00000000;", 13);
     }
 
     private static void lay() {
@@ -370,6 +372,8 @@ public final class PromiseTest {
         dueRow("real", new int[] {x.path(-1), x.path(-2), x.path(1)}, 3, 3, 1);
         CubeChecker here = laid("p20;v00;e0190000;");
         dueRow("trap is place 0", new int[] {here.path(-1), here.path(-2), here.path(0)}, 0, 0, NONE);
+        CubeChecker many = laid("p21;v07;v07;v07;e0190000;");
+        dueRow("all values are first ones", new int[] {many.path(-1), many.path(-2), many.run(-1)}, 1, 1, 1);
         CubeChecker three = laid("p21;v33;c103;e0101000;");
         dueRow("first values count", new int[] {three.path(-1), three.path(-2)}, 1, 1);
         CubeChecker lowest = laid("p32;v01;c101;e0101000;e0100000;e1290000;");
