@@ -547,9 +547,15 @@ public final class OracleTest {
     private static int wrong = 0;
     private static final List<String> calls = new ArrayList<>();
 
+    /** What an object answers behind so many calls is free. */
+    private static final int CALLS_MOST = 512;
+    private static final int CHANGES_MOST = 12;
+    private static int made = 0;
+
     private static void same(String call, int got, int want) {
         calls.add(call);
-        if (got != want) {
+        made++;
+        if (got != want && made <= CALLS_MOST) {
             wrong++;
             if (wrong <= 20) {
                 System.out.println("behind " + calls + " answered " + got + ", the model " + want);
@@ -560,7 +566,8 @@ public final class OracleTest {
     private static void tell(CubeChecker x, Model m, String text) {
         same("wipe()", x.wipe(), m.wipe());
         for (char letter : text.toCharArray()) {
-            if (x.write(letter) != m.write(letter)) wrong++;
+            made++;
+            if (x.write(letter) != m.write(letter) && made <= CALLS_MOST) wrong++;
         }
         calls.add("text " + text);
         same("fault()", x.fault(), m.fault());
@@ -568,9 +575,11 @@ public final class OracleTest {
     }
 
     private static void askAll(CubeChecker x, Model m) {
-        for (int p = -1; p <= 8; p++) {
-            for (int what = -1; what <= 3; what++) same("real(" + p + "," + what + ")", x.real(p, what), m.real(p, what));
+        for (int p = 0; p < m.told.places; p++) {
+            for (int what = 0; what <= 2; what++) same("real(" + p + "," + what + ")", x.real(p, what), m.real(p, what));
         }
+        int anyPlace = any(11) - 1, anyWhat = any(5) - 1;
+        same("real(" + anyPlace + "," + anyWhat + ")", x.real(anyPlace, anyWhat), m.real(anyPlace, anyWhat));
         int length = m.run(-1);
         for (int i = -2; i < length + 2; i++) same("run(" + i + ")", x.run(i), m.run(i));
         tally[30] = Math.max(tally[30], length);
@@ -646,17 +655,24 @@ public final class OracleTest {
         askMay(x, m);
     }
 
-    private static void play(int changes) {
+    private static void begin() {
         calls.clear();
+        made = 0;
+    }
+
+    private static void play() {
+        begin();
         CubeChecker x = new CubeChecker();
         Model m = new Model();
-        for (int programs = 0; programs < 2; programs++) {
+        int programs = chance(30) ? 2 : 1;
+        for (int program = 0; program < programs; program++) {
             String text = anyText();
-            if (chance(20)) tell(x, m, spoilt(text));
+            if (chance(10)) tell(x, m, spoilt(text));
             if (chance(95)) tell(x, m, text);
             askAll(x, m);
             if (chance(30)) lookAtMuch(x, m);
-            for (int i = 0; i < changes; i++) {
+            int till = program == programs - 1 ? CALLS_MOST : CALLS_MOST / 2;
+            for (int i = 0; i < CHANGES_MOST && made < till; i++) {
                 change(x, m);
                 askOne(x, m);
                 if (chance(40)) askMay(x, m);
@@ -668,9 +684,9 @@ public final class OracleTest {
     public static void main(String[] args) {
         int runs = args.length > 0 ? Integer.parseInt(args[0]) : 150;
         if (args.length > 1) seed = Long.parseLong(args[1]);
-        for (int i = 0; i < runs && wrong == 0; i++) play(6);
+        for (int i = 0; i < runs && wrong == 0; i++) play();
         for (int i = 0; i < 2000; i++) {
-            calls.clear();
+            begin();
             tell(new CubeChecker(), new Model(), spoilt(chance(50) ? anyText() : spoilt(anyText() + ";")));
         }
         if (args.length > 0) System.out.println(Arrays.toString(tally));
