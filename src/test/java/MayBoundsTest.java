@@ -246,12 +246,34 @@ public final class MayBoundsTest {
 
     // ---- part 2: how STATES come
 
+    private static void cubeBits() {
+        due.by("The CUBE of values at a PLACE: which of those LOOKED AT there are so (bits; others 0)");
+        CubeChecker x = Due.laid("p21;v00;c009;c100;c009;c000;c009;c101;c009;c009;e0190000;");
+        due.are("nothing LOOKED AT", new int[] {x.state(0, 0), x.state(1, 0)}, 0, 0);
+        int bits = 0;
+        for (int g = 7; g >= 0; g--) {
+            x.look(0, g, 1);
+            if (g != 3 && g != 5) bits |= 1 << g;
+            due.are("from " + g + " on", new int[] {x.state(0, -1), x.state(0, 0), x.state(1, 0)}, 1, bits, 0);
+        }
+        x.look(0, 7, 0);
+        due.are("no more the highest", new int[] {x.state(0, 0), x.looked(0)}, 1 + 2 + 4 + 16 + 64, 127);
+    }
+
     private static void statesOfFirstValues() {
         due.by("STATES come: first those of PLACE 0 that first values have, by CUBES, the lowest ahead");
         CubeChecker x = Due.laid("p32;v13;c101;c102;e0101000;e0111000;e0100000;e1290000;");
         x.look(0, 0, 1);
         x.look(0, 1, 1);
         due.are("3, then 1, then 2", new int[] {x.state(0, -1), x.path(-1), x.path(0), x.path(1)}, 3, 2, 2, 3);
+        CubeChecker y = Due.laid("p32;v12;c101;c102;e0111000;e0101000;e1290000;");
+        y.look(0, 0, 1);
+        y.look(0, 1, 1);
+        due.are("1 (CUBE 1), then 2 (CUBE 2)", new int[] {y.state(0, -1), y.path(-1), y.path(0)}, 2, 2, 1);
+        CubeChecker z = Due.laid("p32;v13;c101;c102;c003;e0120000;e0111000;e0101000;e1290000;");
+        for (int g = 0; g < 3; g++) z.look(0, g, 1);
+        due.are("3 (CUBE 0), then 1 (CUBE 5), then 2 (CUBE 6)", new int[] {z.state(0, 0), z.state(0, 1), z.state(0, 2), z.path(0),
+            z.path(1)}, 0, 5, 6, 0, 3);
         CubeChecker only = Due.laid("p20;v11;c101;");
         only.look(0, 0, 1);
         due.are("only those of first values", new int[] {only.state(0, -1), only.state(0, 0)}, 1, 1);
@@ -276,6 +298,14 @@ public final class MayBoundsTest {
         CubeChecker x = Due.laid("p32;v01;c101;e0190000;e1201000;e1200000;");
         x.look(1, 0, 1);
         due.are("0 ahead of 1", new int[] {x.state(1, -1), x.path(-1), x.path(0), x.path(1)}, 2, 2, 0, 2);
+        CubeChecker y = Due.laid("p32;v12;c101;c102;e0190000;e1211000;e1201000;");
+        y.look(1, 0, 1);
+        y.look(1, 1, 1);
+        due.are("0 has no EDGE, 1 ahead of 2", new int[] {y.state(1, -1), y.path(-1), y.path(0), y.path(1)}, 3, 2, 0, 2);
+        CubeChecker z = Due.laid("p32;v13;c009;c101;c102;e0190000;e1221000;e1211000;e1200000;");
+        for (int g = 0; g < 3; g++) z.look(1, g, 1);
+        due.are("1 has no EDGE, 3 ahead of 5", new int[] {z.state(1, 0), z.state(1, 1), z.state(1, 2), z.path(0), z.path(1)},
+            1, 3, 5, 0, 2);
         CubeChecker edges = Due.laid("p32;v01;c101;e0190101;e0190100;e1201000;e1200000;");
         edges.look(1, 0, 1);
         due.are("but EDGES ahead of CUBES", new int[] {edges.path(-1), edges.path(0), edges.path(1)}, 2, 0, 2);
@@ -431,6 +461,7 @@ public final class MayBoundsTest {
         stateNone();
         stateLowestFirst();
         stateMany();
+        cubeBits();
         statesOfFirstValues();
         statesOneBehindTheOther();
         statesByEdges();

@@ -127,6 +127,13 @@ public final class MendBoundsTest {
         twice.look(0, 0, 1);
         due.are("by PLACE 0 twice", new int[] {twice.path(-1), twice.path(-2), twice.mend(), twice.looked(0), twice.looked(1)},
             2, 1, 2, 3, 2);
+        CubeChecker past = Due.laid("p43;v00;c100;e0190000;e1290000;e0300000;");
+        due.are("not where other EDGES lead", new int[] {past.mend(), past.looked(0), past.looked(1), past.looked(2), past.looked(3)},
+            1, 1, 0, 0, 1);
+        CubeChecker shorter = Due.laid("p43;v00;c100;c101;e0190000;e1200000;e2390000;e0311000;");
+        shorter.look(0, 1, 1);
+        due.are("nor where an earlier PATH led", new int[] {shorter.path(-1), shorter.look(0, 1, 0), shorter.path(-1), shorter.mend(),
+            shorter.looked(0), shorter.looked(1), shorter.looked(2), shorter.looked(3)}, 3, 0, 1, 1, 1, 0, 0, 1);
         CubeChecker kept = Due.laid("p32;v00;c100;c005;e0190000;e1200000;");
         kept.look(0, 1, 1);
         kept.look(2, 1, 1);
@@ -300,6 +307,33 @@ public final class MendBoundsTest {
         due.are("LOOKED AT undone", new int[] {x.undo(), x.looked(0), x.undo()}, 0, 0, NO);
     }
 
+    private static void undoEachEdge() {
+        due.by("A change: an EDGE TURNED (it asks for the other T): T of each of 14 EDGES, 0 and 1, is as it was");
+        CubeChecker x = Due.laid("p20;v00;c000;" + "e0100000;e0101000;".repeat(7));
+        for (int e = 0; e < 14; e++) {
+            int told = e % 2;
+            due.are("EDGE " + e, new int[] {x.turn(e), x.edge(e, 3), x.undo(), x.edge(e, 3)}, 1 - told, 1 - told, 0, told);
+        }
+        for (int e = 8; e < 14; e++) x.turn(e);
+        for (int left = 5; left >= 0; left--) x.undo();
+        for (int e = 0; e < 14; e++) due.is("EDGE " + e + " behind all", x.edge(e, 3), e % 2);
+        x.turn(0);
+        x.look(0, 0, 1);
+        x.undo();
+        due.are("undone is the look alone", new int[] {x.edge(0, 3), x.edge(1, 3), x.looked(0), x.count(7)}, 1, 1, 0, 1);
+    }
+
+    private static void undoEachPlace() {
+        due.by("A change: a COMPARISON LOOKED AT at a PLACE or not: each of 8 at each of 8 PLACES is as it was");
+        for (int p = 0; p < 8; p++) {
+            CubeChecker x = Due.laid("p80;v00;" + "c009;".repeat(8));
+            for (int g = 0; g < 8; g++) {
+                due.are("COMPARISON " + g + " at " + p, new int[] {x.look(p, g, 1), x.looked(p), x.undo(), x.looked(p), x.count(5)},
+                    1, 1 << g, 0, 0, 0);
+            }
+        }
+    }
+
     private static void undoNoOther() {
         due.by("20 undo: what is refused, asked, written, wiped or UNDONE is no change");
         CubeChecker x = Due.laid("p32;v00;c100;c101;e0190000;e1200000;e1211000;");
@@ -408,6 +442,8 @@ public final class MendBoundsTest {
         undoSix();
         undoThenChange();
         undoEachKind();
+        undoEachEdge();
+        undoEachPlace();
         undoNoOther();
         undoLaid();
         countWhat();

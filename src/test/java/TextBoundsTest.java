@@ -425,6 +425,8 @@ public final class TextBoundsTest {
         String text = Due.ALL_FULL + " ".repeat(18);
         CubeChecker y = Due.written(text);
         due.are("no letter comes elsewhere", new int[] {y.write('z'), y.fault(), y.count(8)}, FULL, 182, 200);
+        due.refused("write('x'), full", () -> changedWith("p20;" + "x".repeat(196)), z -> z.write('x'), FULL);
+        due.refused("write(31), full", () -> changedWith("p20;" + "x".repeat(196)), z -> z.write(31), BAD);
     }
 
     private static void writeBadAheadOfFull() {
@@ -472,6 +474,8 @@ public final class TextBoundsTest {
         due.fault("p20;", NONE);
         due.fault(Due.AT_FIRST, NONE);
         due.fault(Due.ALL_FULL, NONE);
+        due.refused("fault(), empty", TextBoundsTest::changed, CubeChecker::fault, NONE);
+        due.refused("fault(), no FAULT", () -> changedWith("p20;v00;"), CubeChecker::fault, NONE);
     }
 
     private static void faultPlaces() {
@@ -524,17 +528,41 @@ public final class TextBoundsTest {
         due.by("5 lay: nothing is left of what was LAID ahead, from the fullest to the emptiest and back");
         CubeChecker x = Due.laid(Due.ALL_FULL);
         x.look(7, 7, 1);
+        x.mend();
+        askAll(x);
         x.wipe();
         Due.write(x, "p20;");
         due.is("lay()", x.lay(), 2);
-        CubeChecker least = Due.laid("p20;");
-        due.same("the emptiest", Due.everything(x), Due.everything(least));
+        due.same("the emptiest", Due.everything(x), Due.everything(Due.laid("p20;")));
         due.are("what is there no more", new int[] {x.looked(2), x.edge(0, 0), x.so(0, 0, 0, 0), x.turn(1)}, BAD, BAD, BAD, BAD);
-        CubeChecker y = Due.laid("p20;");
-        y.wipe();
-        Due.write(y, Due.AT_FIRST);
-        due.is("lay()", y.lay(), 4);
-        due.same("a fuller one", Due.everything(y), Due.everything(Due.laid(Due.AT_FIRST)));
+        String[] texts = {"p20;", "p43;v77;c107;c100;e0190309;e1300000;", Due.AT_FIRST, "p32;v07;v07;c100;c110;e0190000;e1201000;"};
+        for (String first : texts) {
+            for (String next : texts) {
+                CubeChecker y = Due.laid(first);
+                Due.everything(y);
+                y.wipe();
+                Due.write(y, next);
+                y.lay();
+                CubeChecker z = Due.laid(next);
+                due.same(next + " behind " + first, Due.everything(y), Due.everything(z));
+                due.are(next + " behind " + first, lookAtTwo(y), lookAtTwo(z));
+            }
+        }
+    }
+
+    /** So that all that can be kept from one call to the next is there. */
+    private static void askAll(CubeChecker x) {
+        x.count(6);
+        x.path(-2);
+        x.run(-1);
+        x.real(0, 0);
+        x.may(13, 0, 0);
+    }
+
+    private static int[] lookAtTwo(CubeChecker x) {
+        return new int[] {x.look(0, 0, 1), x.look(1, 1, 1), x.count(6), x.state(0, -1), x.state(0, 0), x.state(0, 1), x.state(1, -1),
+            x.state(1, 0), x.state(1, 1), x.path(-1), x.path(-2), x.found(0), x.found(1), x.may(0, 0, 0), x.may(0, 0, 2),
+            x.may(1, 0, 0), x.may(1, 2, 0)};
     }
 
     private static void textStays() {
