@@ -7,6 +7,7 @@ import java.nio.file.Path;
 import java.util.ArrayList;
 import java.util.Collections;
 import java.util.List;
+import java.util.Set;
 import java.util.regex.Matcher;
 import java.util.regex.Pattern;
 
@@ -17,6 +18,9 @@ public final class FaceTest {
         "turn(int)", "so(int,int,int,int)", "gone(int,int,int,int)", "real(int,int)", "run(int)", "look(int,int,int)",
         "looked(int)", "may(int,int,int)", "state(int,int)", "found(int)", "path(int)", "mend()", "check(int)", "undo()",
         "count(int)");
+    private static final Set<Class<?>> CONSTANTS = Set.of(int.class, long.class, boolean.class, char.class, String.class,
+        int[].class, long[].class, char[].class, byte[].class);
+    private static final int LINES_MOST = 60;
     private static int wrong = 0;
 
     private static void is(boolean so, String what) {
@@ -43,6 +47,7 @@ public final class FaceTest {
         Collections.sort(methods);
         is(methods.equals(due), "the methods " + methods);
         for (Field f : c.getDeclaredFields()) {
+            type(f);
             boolean constant = List.of("BAD", "NO", "FULL", "NONE").contains(f.getName());
             is(constant == Modifier.isPublic(f.getModifiers()) && constant != Modifier.isPrivate(f.getModifiers()),
                 "field " + f.getName());
@@ -56,6 +61,7 @@ public final class FaceTest {
         is(Modifier.isStatic(c.getModifiers()) && Modifier.isPrivate(c.getModifiers()), c + " is private and static");
         int fields = 0;
         for (Field f : c.getDeclaredFields()) {
+            type(f);
             if (!Modifier.isStatic(f.getModifiers())) fields++;
             else is(Modifier.isFinal(f.getModifiers()), f + " is final");
         }
@@ -63,6 +69,30 @@ public final class FaceTest {
         for (Method m : c.getDeclaredMethods()) {
             is(m.getParameterCount() <= 7, m + " takes seven at most");
             for (String face : FACE) is(!face.startsWith(m.getName() + "("), m + " bears a name of the face");
+        }
+    }
+
+    /** Constants of few types; else numbers, own classes, rows of these, and tables of numbers. */
+    private static void type(Field f) {
+        Class<?> type = f.getType();
+        if (Modifier.isStatic(f.getModifiers())) {
+            is(Modifier.isFinal(f.getModifiers()) && CONSTANTS.contains(type), f + " is a constant");
+            return;
+        }
+        Class<?> row = type.isArray() ? type.getComponentType() : type;
+        Class<?> one = row.isArray() ? row.getComponentType() : row;
+        is(one.isPrimitive() || !row.isArray() && one.getDeclaringClass() == CubeChecker.class, f + " has a type of LANGUAGE.md");
+    }
+
+    /** From a line that opens a method to the one that closes it; what it has inside is shorter. */
+    private static void lengths() throws IOException {
+        List<String> lines = Files.readAllLines(FILE);
+        for (int i = 0; i < lines.size(); i++) {
+            Matcher opened = Pattern.compile("^( {4}| {8})\\S.*\\{$").matcher(lines.get(i));
+            if (!opened.find() || lines.get(i).contains(" class ")) continue;
+            int end = i;
+            while (end < lines.size() && !lines.get(end).startsWith(opened.group(1) + "}")) end++;
+            is(end - i < LINES_MOST, "the length of " + lines.get(i).trim());
         }
     }
 
@@ -78,6 +108,7 @@ public final class FaceTest {
 
     public static void main(String[] args) throws IOException {
         members();
+        lengths();
         words();
         System.out.println(wrong == 0 ? "the face is as it should be" : wrong + " things are not");
         if (wrong != 0) System.exit(1);

@@ -469,12 +469,6 @@ public final class PromiseTest {
         dueRow("wrong", new int[] {x.count(-1), x.count(9), x.count(Integer.MIN_VALUE)}, BAD, BAD, BAD);
     }
 
-    private static void readme() {
-        promise = 0;
-        CubeChecker x = laid("p32;v03;c002;e0101000;e1200000;");
-        dueRow("README", new int[] {x.path(-1), x.path(-2), x.check(9), x.looked(1)}, 2, 1, 0, 1);
-    }
-
     public static void main(String[] args) {
         newObject();
         write();
@@ -497,7 +491,6 @@ public final class PromiseTest {
         check();
         undo();
         count();
-        readme();
         System.out.println(wrong == 0 ? "all promises are kept" : wrong + " answers are not as due");
         if (wrong != 0) System.exit(1);
     }
