@@ -9,7 +9,9 @@ public final class WildTest {
         -4, -3, -2, -1, 7, 8, 9, 14, 15, 16, 31, 32, 33, 64, 127, 200, 255, 256, 512, 65536 + 'p'};
     private static final String[] TEXTS = {Due.ALL_FULL, Due.AT_FIRST, "p20;", "p87;", "p21;v07;v07;v07;e0190000;",
         "p21;v00;c100;c001;c002;c003;c004;c005;c006;c007;e0090201;e0107000;",
-        "p32;v00;v00;v00;c017;c027;c007;c107;e0090201;e0000221;e0010222;e0193000;e1292000;"};
+        "p32;v00;v00;v00;c017;c027;c007;c107;e0090201;e0000221;e0010222;e0193000;e1292000;",
+        "p20;v00;v00;v00;v00;", "p20;v00;" + "c000;".repeat(9), "p20;" + "e0190000;".repeat(15),
+        "p20;v00;" + "e0190000;".repeat(14) + "c000;".repeat(8) + "v00;v00;" + "e01900"};
     private static final Random ANY = new Random(20261118);
 
     /** Mostly what is told, at times odd, at times any number at all. */
@@ -60,9 +62,9 @@ public final class WildTest {
         for (int object = 0; object < OBJECTS; object++) {
             CubeChecker x = new CubeChecker();
             for (int i = 0; i < CALLS; i++) {
-                if (ANY.nextInt(300) == 0) tell(x);
                 int which = ANY.nextInt(20);
                 try {
+                    if (ANY.nextInt(300) == 0) tell(x);
                     if (told(x, which) < CubeChecker.NONE) throw new IllegalStateException("an answer below all that are told");
                 } catch (RuntimeException thrown) {
                     wrong++;
